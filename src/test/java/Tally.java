@@ -1,0 +1,26 @@
+/** Counts the answers that are not as due and tells them. */
+final class Tally {
+    private int wrong = 0;
+    private int asked = 0;
+
+    void due(String what, long got, long want) {
+        asked++;
+        if (got != want) {
+            wrong++;
+            if (wrong <= 50) {
+                System.out.println(what + ": answered " + got + ", due is " + want);
+            }
+        }
+    }
+
+    int wrongSoFar() {
+        return wrong;
+    }
+
+    void end() {
+        System.out.println(asked + " answers, " + wrong + " not as due");
+        if (wrong != 0 || asked == 0) {
+            System.exit(1);
+        }
+    }
+}
