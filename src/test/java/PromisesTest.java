@@ -368,6 +368,9 @@ public final class PromisesTest {
         refused("buy by whom it is lent to", x, () -> x.buy(5, 1, 1), STATE);
         refused("buy by who lent it", x, () -> x.buy(2, 1, 1), STATE);
         due("buy the other side of a lent one", x.buy(0, 1, 1), 4);
+        due("whose that is", x.about(1, 4), 0);
+        due("who got it for that", x.person(3, 0), 13);
+        due("the lent side is as it was", x.about(1, 5), 2);
         x.peace(2);
         refused("buy a struck one", x, () -> x.buy(1, 2, 0), STATE);
         x.death(3);
@@ -450,6 +453,9 @@ public final class PromisesTest {
         x.death(4);
         x.death(5);
         refused("peace of a joke, both open", x, () -> x.peace(2), STATE);
+        ClosedFeuds joke = read("j125");
+        joke.death(2);
+        due("peace of a joke, side 1 open", joke.peace(0), 1);
         for (int feud : new int[] {-1, 7, LOW, HIGH}) {
             refused("peace of feud " + feud, x, () -> x.peace(feud), UNKNOWN);
         }
@@ -531,6 +537,18 @@ public final class PromisesTest {
         due("the other side is lent to the heir", loan.death(0), 0);
         due("open", loan.about(0, 3), NONE);
         due("still lent", loan.about(0, 6), 1);
+
+        ClosedFeuds lender = read("b015");
+        lender.lend(0, 0, 2);
+        due("who lent side 0 dies", lender.death(0), 0);
+        due("it is open", lender.about(0, 3), NONE);
+        due("and not lent", lender.count(4), 0);
+
+        ClosedFeuds borrower = read("b015");
+        borrower.lend(0, 0, 2);
+        due("to whom side 0 is lent dies", borrower.death(2), 0);
+        due("it is back", borrower.about(0, 3), 0);
+        due("and not lent any more", borrower.count(4), 0);
 
         ClosedFeuds owner = read("b015");
         owner.lend(0, 1, 2);
@@ -967,6 +985,16 @@ public final class PromisesTest {
         x.death(0);
         due("restore the later one", x.restore(), 3);
         due("as it was then", x.digest(), later);
+        ClosedFeuds first = read("b013");
+        due("image of the first feud", first.image(), 1);
+        first.lend(0, 0, 4);
+        first.season();
+        due("it is struck", first.peace(0), 1);
+        due("restore the first feud", first.restore(), 1);
+        due("it is not struck", first.about(0, 2), 0);
+        due("its side 0", first.about(0, 3), 0);
+        due("its side 1", first.about(0, 4), 1);
+        due("its money", first.person(5, 0), 9);
         write(x, "01");
         refused("a list that is none", x, x::list, STATE);
         due("no other list", x.restore(), 3);
@@ -1058,5 +1086,10 @@ public final class PromisesTest {
         write(x, "g~x");
         due("digest of much", x.digest(), toldDigest(x, "g~x"));
         due("digest again", x.digest(), toldDigest(x, "g~x"));
+        ClosedFeuds twice = read("013,014");
+        due("most and fewest are unlike", twice.marry(0) - twice.marry(1), 1);
+        due("digest of these", twice.digest(), toldDigest(twice, ""));
+        twice.register(2, 3);
+        due("digest of a sure one", twice.digest(), toldDigest(twice, ""));
     }
 }
