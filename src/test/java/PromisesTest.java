@@ -1,39 +1,5 @@
 /** For each promise of the document answers that were reckoned by hand from its words. */
-public final class PromisesTest {
-    private static final int NONE = -1, UNKNOWN = -101, OUTSIDE = -102, STATE = -103, FULL = -104;
-    private static final int LOW = Integer.MIN_VALUE, HIGH = Integer.MAX_VALUE;
-    private static final Tally tally = new Tally();
-
-    private static void due(String what, long got, long want) {
-        tally.due(what, got, want);
-    }
-
-    private static void write(ClosedFeuds x, String text) {
-        for (char sign : text.toCharArray()) {
-            x.letter(sign);
-        }
-    }
-
-    private static ClosedFeuds read(String text) {
-        ClosedFeuds x = new ClosedFeuds();
-        write(x, text);
-        due("list of " + text, x.list(), text.split(",").length);
-        return x;
-    }
-
-    /** A refusal that is due and changes nothing that digest() tells. */
-    private static void refused(String what, ClosedFeuds x, java.util.function.LongSupplier call, int refusal) {
-        long before = x.digest();
-        due(what, call.getAsLong(), refusal);
-        due(what + " changes nothing", x.digest(), before);
-    }
-
-    private static void seasons(ClosedFeuds x, int many) {
-        for (int i = 0; i < many; i++) {
-            x.season();
-        }
-    }
-
+public final class PromisesTest extends ByHand {
     public static void main(String[] args) {
         aNewObject();
         letter();
