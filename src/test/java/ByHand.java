@@ -4,6 +4,7 @@ import java.util.function.LongSupplier;
 abstract class ByHand {
     static final int NONE = -1, UNKNOWN = -101, OUTSIDE = -102, STATE = -103, FULL = -104;
     static final int LOW = Integer.MIN_VALUE, HIGH = Integer.MAX_VALUE;
+    static final int[] NO_PERSON = {-1, 6, 7, LOW, HIGH};
     static final Tally tally = new Tally();
     private static String sentence = "";
 

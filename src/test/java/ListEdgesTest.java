@@ -241,6 +241,10 @@ public final class ListEdgesTest extends ByHand {
         }
         due("feud 1 is gone", x.about(1, 0), UNKNOWN);
         due("registers are gone", x.lapsed(0), 15);
+        ClosedFeuds first = new ClosedFeuds();
+        first.register(2, 4);
+        readAgain(first, "011");
+        due("REGISTERS from ahead of the first LIST are gone, too", first.count(6), 0);
         readAgain(x, EIGHT);
         for (int feud = 0; feud < 8; feud++) {
             due("side 0 of " + feud, x.about(feud, 3), EIGHT.charAt(4 * feud) - '0');

@@ -1,7 +1,5 @@
 /** Each sentence on PEOPLE, MONEY and HARMS that names a boundary case: "Terms", promises 8, 9 and 14 to 16. */
 public final class PeopleEdgesTest extends ByHand {
-    private static final int[] NO_PERSON = {-1, 6, 7, LOW, HIGH};
-
     public static void main(String[] args) {
         sidesOfAPerson();
         harmsOfAPerson();
@@ -194,6 +192,8 @@ public final class PeopleEdgesTest extends ByHand {
         due("harms", x.count(5), 12);
         due("by 0", x.person(0, 4), 6);
         due("by 3", x.person(3, 4), 6);
+        due("of 1, as often as it was", x.person(1, 5), 6);
+        due("of 2, as often as it was", x.person(2, 5), 6);
         sentence("15: STATE is told ahead of FULL, UNKNOWN ahead of both");
         refused("he may not, and full", x, () -> x.harm(0, 2), STATE);
         refused("unknown, and full", x, () -> x.harm(0, 6), UNKNOWN);

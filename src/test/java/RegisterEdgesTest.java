@@ -2,8 +2,6 @@ import java.math.BigInteger;
 
 /** Each sentence on REGISTERS and YEARS that names a boundary case: "Terms", promises 21 to 24. */
 public final class RegisterEdgesTest extends ByHand {
-    private static final int[] NO_PERSON = {-1, 6, 7, LOW, HIGH};
-
     public static void main(String[] args) {
         eightRegisters();
         registerRefuses();
@@ -17,6 +15,7 @@ public final class RegisterEdgesTest extends ByHand {
         deathInAYear();
         nobodyAlive();
         seasonOfAYear();
+        struckInYears();
         moneyInYears();
         yearsRefuses();
         yearsChangeNothing();
@@ -178,6 +177,12 @@ public final class RegisterEdgesTest extends ByHand {
         dueYears("seed 8, with an HEIR who has bought the other SIDE", x, 1, 8, 5, 64, 1, 1790236893);
         x.heir(1, 2);
         dueYears("seed 8, with another HEIR", x, 1, 8, 5, 64, 0, 1790236893);
+        // PERSON 3, FEUD 0, SIDE 1; PERSON 2, who dies (0 of 4).
+        ClosedFeuds side1 = read("215");
+        side1.heir(2, 3);
+        dueYears("seed 11, his HEIR has bought SIDE 1", side1, 1, 11, 5, 64, 1, 764981652);
+        side1.heir(2, 1);
+        dueYears("seed 11, his HEIR has sold SIDE 1", side1, 1, 11, 5, 64, 0, 764981652);
         x.peace(0);
         dueYears("seed 8, STRUCK", x, 1, 8, 5, 64, 0, 1790236893);
     }
@@ -224,6 +229,17 @@ public final class RegisterEdgesTest extends ByHand {
         due("still LENT", x.count(4), 1);
         ClosedFeuds dear = read("g019");
         dueYears("too dear", dear, 1, 8, 5, 55, 1, 1790236893);
+    }
+
+    private static void struckInYears() {
+        sentence("24: by a DRAW of how many FEUDS there are one of these");
+        ClosedFeuds x = read("011,235");
+        x.peace(0);
+        x.death(2);
+        // PERSON 4, FEUD 0, SIDE 0; PERSON 0, who lives (3 of 4).
+        dueYears("seed 7, a STRUCK one", x, 1, 7, 5, 55, 1, 2131988640);
+        // PERSON 4, FEUD 1, SIDE 0; PERSON 0, who lives (2 of 4).
+        dueYears("seed 22, an OPEN SIDE", x, 1, 22, 5, 50, 0, 1300679731);
     }
 
     private static void moneyInYears() {

@@ -1,7 +1,5 @@
 /** Each sentence on SIDES that names a boundary case: PRICE, BUYING, LENDING, PEACE, DEATH; promises 10 to 13. */
 public final class SidesEdgesTest extends ByHand {
-    private static final int[] NO_PERSON = {-1, 6, 7, LOW, HIGH};
-
     public static void main(String[] args) {
         prices();
         halfWhileOpen();
@@ -9,6 +7,7 @@ public final class SidesEdgesTest extends ByHand {
         thePriceAsMoney();
         theSellerGets();
         nobodySells();
+        eachSideIsBought();
         buyingCantBe();
         buyRefuses();
         lendingKinds();
@@ -147,6 +146,24 @@ public final class SidesEdgesTest extends ByHand {
         }
         due("none is OPEN", x.count(3), 0);
         due("whose it is", x.about(0, 3), 2);
+    }
+
+    private static void eachSideIsBought() {
+        sentence("10: pays it; the SIDE is his then; he whose it was gets the PRICE: each SIDE of eight FEUDS");
+        for (int feud = 0; feud < 8; feud++) {
+            for (int side = 0; side < 2; side++) {
+                ClosedFeuds x = read("011,012,013,014,015,016,017,018");
+                int other = (feud + 1) % 8;
+                due("PRICE", x.buy(4, feud, side), feud + 1);
+                due("whose it is", x.about(feud, 3 + side), 4);
+                due("whose the other SIDE is", x.about(feud, 4 - side), 1 - side);
+                due("on another FEUD, SIDE 0", x.about(other, 3), 0);
+                due("on another FEUD, SIDE 1", x.about(other, 4), 1);
+                due("he pays", x.person(4, 0), 8 - feud);
+                due("he gets", x.person(side, 0), 10 + feud);
+                due("the other one has his", x.person(1 - side, 0), 9);
+            }
+        }
     }
 
     private static void buyingCantBe() {
@@ -358,16 +375,18 @@ public final class SidesEdgesTest extends ByHand {
             due("to", x.about(0, 3), deadOnes < 4 ? deadOnes + 1 : NONE);
             due("to, the other FEUD", x.about(1, 3), deadOnes < 4 ? deadOnes + 1 : NONE);
         }
-        ClosedFeuds far = read("b011,b011");
+        ClosedFeuds far = read("b011");
         for (int one = 0; one < 5; one++) {
             far.heir(one, one + 1);
         }
+        // 2 HAS TO DO with SIDE 0, so that 1's SIDE is OPEN and nobody is over against 0's.
+        far.lend(0, 0, 2);
         for (int one = 1; one < 5; one++) {
-            far.death(one);
+            due("none goes from " + one, far.death(one), 0);
         }
-        // 1's SIDES go along to 5, by 2; then 0's would, but 5 is over against them.
-        due("5 is over against", far.death(0), 0);
-        due("5 has 1's", far.person(5, 3), 2);
+        due("along four dead ones", far.death(0), 1);
+        due("to the last one", far.about(0, 3), 5);
+        due("with all MONEY", far.person(5, 0), 54);
         sentence("13: it is OPEN, if there is none");
         ClosedFeuds none = read("011");
         due("no HEIR", none.death(0), 0);

@@ -20,6 +20,7 @@ public final class WholeEdgesTest extends ByHand {
         digestWithoutAList();
         digestOfMuch();
         digestOfSides();
+        digestOfMarriages();
         fiveHundredAndTwelve();
         tally.end();
     }
@@ -268,6 +269,21 @@ public final class WholeEdgesTest extends ByHand {
             told.add(NONE);
         }
         told.addAll(numbers(0, 0, 15, NONE, 2, 1, 5, 1, 0, 0, 0, 0, 1));
+        due("digest", x.digest(), folded(told));
+    }
+
+    private static void digestOfMarriages() {
+        sentence("28: what marry() tells for 0 and 1, what lapsed() tells for 0 and 1");
+        ClosedFeuds x = read("011,011");
+        x.register(2, 5);
+        List<Integer> told = numbers(0, 1, 0, 0, 1, NONE, NONE, 1, 1, 0, 1, 0, 0, 1, NONE, NONE, 1, 1);
+        for (int one = 0; one <= 5; one++) {
+            told.addAll(numbers(9, NONE, 1, one < 2 ? 2 : 0, 0, 0));
+        }
+        for (int pair = 0; pair < 30; pair++) {
+            told.add(pair == 0 || pair == 5 ? 0 : NONE);
+        }
+        told.addAll(numbers(2, 1, 1, 17, 2, 0, 6, 0, 0, 0, 1, 0, 1));
         due("digest", x.digest(), folded(told));
     }
 

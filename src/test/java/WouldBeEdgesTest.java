@@ -2,8 +2,6 @@ import java.math.BigInteger;
 
 /** Each sentence on what would be that names a boundary case: "Terms", promises 17 to 20. */
 public final class WouldBeEdgesTest extends ByHand {
-    private static final int[] NO_PERSON = {-1, 6, 7, LOW, HIGH};
-
     public static void main(String[] args) {
         nothingToBuy();
         theLeastMoney();
